@@ -265,6 +265,7 @@ public final class ReshapeArray {
         return b >= 0 && b < size();
     }
 
+    // Asks for completion itself, since the calls that lead here are six deep already.
     private boolean isMoved(int b) {
         return moved == GROUPS || b < moved * GROUP_BLOCKS;
     }
