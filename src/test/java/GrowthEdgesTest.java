@@ -124,7 +124,7 @@ final class GrowthEdgesTest {
         }
     }
 
-    /** Promise 14: "otherwise answers how many groups have been moved now": the first to the last. */
+    /** Promise 14: "otherwise answers how many groups have been moved now": 1 to 6. */
     private static void stepOtherwise() {
         stepDone(false);
     }

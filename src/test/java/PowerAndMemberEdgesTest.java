@@ -1,4 +1,4 @@
-/** The boundary cases of promises 16 to 20: crash, mount, fail, replace and scrub; one test each. */
+/** The boundary cases of promises 16 to 20: crash, mount, fail, replace, scrub; one test each. */
 final class PowerAndMemberEdgesTest {
     private static final int LEAST = Stage.LEAST;
     private static final int MOST = Stage.MOST;

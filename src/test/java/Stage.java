@@ -176,6 +176,21 @@ final class Stage {
         ReshapeArray x = make();
         Due.due(this + ": " + call, made.applyAsInt(x), due);
         unchanged(call, x);
+        ReshapeArray y = make();
+        made.applyAsInt(y);
+        Due.due(this + ": blocks changed after " + call, changedBlocks(y), 0);
+    }
+
+    // Counted against what is due: if the story itself makes the same refused call, as it does with
+    // mount and scrub, both arrays would show the same damage.
+    private int changedBlocks(ReshapeArray x) {
+        x.crash();
+        x.mount();
+        int changed = 0;
+        for (int b = 0; b < size(); b++) {
+            changed += x.read(b) == held(b) ? 0 : 1;
+        }
+        return changed;
     }
 
     void unchanged(String call, ReshapeArray x) {
@@ -223,6 +238,9 @@ final class Stage {
         tellState(told, x);
         told.add(x.mount());
         tellState(told, x);
+        // Another power loss brings out what would come back only when the array is mounted.
+        told.add(x.crash());
+        told.add(x.mount());
         tellBlocks(told, x);
         told.add(x.replace());
         tellState(told, x);

@@ -89,7 +89,8 @@ final class TermsEdgesTest {
         }
     }
 
-    private static void newBlocksHoldZero(String how, int member, ToIntFunction<ReshapeArray> sixth) {
+    private static void newBlocksHoldZero(String how, int member,
+            ToIntFunction<ReshapeArray> sixth) {
         ReshapeArray x = Stage.of(5, member).make();
         x.fill(0, 24, -1, 0);
         for (int b = 24; b < 48; b++) {

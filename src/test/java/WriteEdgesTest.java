@@ -5,9 +5,10 @@ final class WriteEdgesTest {
     private static final int NONE = Stage.NONE;
     private static final int[] VALUES = {LEAST, LEAST + 1, -1, 0, 1, MOST - 1, MOST};
     private static final int[] COUNTS_INSIDE = {1, 2, 23, 24};
-    private static final int[] COUNTS_OUTSIDE = {LEAST, LEAST + 1, -1, 0, 25, 26, 48, MOST - 1, MOST};
+    private static final int[] COUNTS_OUTSIDE = {LEAST, LEAST + 1, -1, 0, 25, 26, 48, MOST};
     private static final int[] POINTS_INSIDE = {0, 1, 2, 3};
     private static final int[] POINTS_OUTSIDE = {LEAST, LEAST + 1, -2, -1, 4, 5, MOST - 1, MOST};
+    private static final int[] ANY_POINTS = {LEAST, -1, 0, 3, 4, MOST};
 
     private WriteEdgesTest() {
     }
@@ -176,14 +177,14 @@ final class WriteEdgesTest {
     private static void writeCrashWhileDown() {
         for (Stage stage : Stage.allDown()) {
             int[] blocks = {LEAST, -1, 0, stage.size() - 1, stage.size(), MOST};
-            writeCrashRefused(stage, blocks, new int[] {LEAST, -1, 0, 3, 4, MOST}, -1);
+            writeCrashRefused(stage, blocks, ANY_POINTS, -1);
         }
     }
 
-    /** Promise 12: "-2 if b is not in 0 .. size()-1": also at no point, and with a failed member. */
+    /** Promise 12: "-2 if b is not in 0 .. size()-1": also at no point, or with a failed member. */
     private static void writeCrashOutside() {
         for (Stage stage : Stage.allUp()) {
-            writeCrashRefused(stage, stage.blocksOutside(), new int[] {LEAST, -1, 0, 3, 4, MOST}, -2);
+            writeCrashRefused(stage, stage.blocksOutside(), ANY_POINTS, -2);
         }
     }
 
